@@ -564,21 +564,6 @@ public final class DeliveryRound {
             return (skipped & 1 << house) != 0;
         }
 
-        void clear() {
-            day = 0;
-            skipped = 0;
-            Arrays.fill(orders, 0);
-            Arrays.fill(keep, 0);
-            Arrays.fill(gateFrom, 0);
-            Arrays.fill(gateTo, NO_GATE);
-            Arrays.fill(bottles, 0);
-            Arrays.fill(delivered, 0);
-            Arrays.fill(returned, 0);
-            Arrays.fill(broken, 0);
-            Arrays.fill(habits, 0);
-            log.clear();
-        }
-
         void copyFrom(State other) {
             day = other.day;
             skipped = other.skipped;
@@ -632,14 +617,9 @@ public final class DeliveryRound {
                 return;
             }
             kind = kindOf(bytes[start]);
+            int longest = kind == WORD ? MAX_LETTERS : kind == NUMBER ? MAX_DIGITS : 1;
             end++;
-            if (kind == WORD || kind == NUMBER) {
-                takeRest(kind == WORD ? MAX_LETTERS : MAX_DIGITS);
-            }
-        }
-
-        void takeRest(int longest) {
-            while (end < length && kindOf(bytes[end]) == kind) {
+            while (longest > 1 && end < length && kindOf(bytes[end]) == kind) {
                 end++;
             }
             if (end - start > longest) {
@@ -691,6 +671,7 @@ public final class DeliveryRound {
 
         final Text text;
         final Plan plan = new Plan();
+        // Only orders, keeps and gates are ever written here; all else stays as in a new state.
         final State state = new State();
         int seen;
         int error;
@@ -701,7 +682,6 @@ public final class DeliveryRound {
 
         void readRound(int length) {
             plan.clear();
-            state.clear();
             seen = 0;
             error = NO_ERROR;
             text.begin(length);
@@ -757,12 +737,18 @@ public final class DeliveryRound {
             plan.streetA[street] = a;
             plan.streetB[street] = b;
             plan.streetLength[street] = readNumber(1, 99);
+            readGate(street);
+            plan.streetCount++;
+        }
+
+        void readGate(int street) {
+            state.gateFrom[street] = 0;
+            state.gateTo[street] = NO_GATE;
             if (text.isWord("gate")) {
                 text.advance();
                 state.gateFrom[street] = readNumber(0, LAST_MINUTE);
                 state.gateTo[street] = readNumber(state.gateFrom[street] + 1, DAY_END);
             }
-            plan.streetCount++;
         }
 
         void readHouse() {

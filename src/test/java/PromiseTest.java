@@ -29,6 +29,7 @@ public final class PromiseTest {
         parseLength();
         parseKeepsAfterError();
         parseClears();
+        parseReplaces();
         plainNumbers();
         houseNodeAndOrder();
         isOpen();
@@ -47,6 +48,7 @@ public final class PromiseTest {
         ledger();
         records();
         returnsAndRoom();
+        roomIsShared();
         reload();
         reloadWithoutWayToDepot();
         reloadWithoutWayBack();
@@ -104,6 +106,7 @@ public final class PromiseTest {
         due("undo", r.undo(), ABSENT);
         due("restoreSnapshot(0)", r.restoreSnapshot(0), false);
         due("restoreSnapshot(1)", r.restoreSnapshot(1), false);
+        due("finish", r.finish(), ABSENT);
         due("carryOut", r.carryOut(BY_NUMBER), 0);
         due("finish", r.finish(), 300);
     }
@@ -142,6 +145,14 @@ public final class PromiseTest {
         error("^gate 1 2;", 1);
         error("^nod 3;", 1);
         error("^nodess 3;", 1);
+        error("^xodes 3;", 1);
+        error("^nodex 3;", 1);
+        error("^housez 1;", 1);
+        error("^acart 20;", 1);
+        error("cart 20^`", 1);
+        error("cart 20^{", 1);
+        error("cart 20^:", 1);
+        error("cart 20^/", 1);
         error("^abcdefg;", 1);
         error("^Nodes 3;", 1);
         error("nodes ^\t3;", 1);
@@ -334,6 +345,27 @@ public final class PromiseTest {
         due("undo", r.undo(), ABSENT);
         due("restoreSnapshot(0)", r.restoreSnapshot(0), false);
         due("restoreSnapshot(1)", r.restoreSnapshot(1), false);
+    }
+
+    private static void parseReplaces() {
+        DeliveryRound r = Check.round(TOWN);
+        order("fastestStop", r, 1, 2);
+        due("parse", Check.parse(r, "nodes 4;street 0 1 10;house 3 0 0 1 1 1 1 1 1 1;"), 1);
+        due("fastestFinish", r.fastestFinish(), ABSENT);
+        due("totalDemand", r.totalDemand(), 1);
+        due("stops", r.stops(), 8);
+        due("arrival(0, 2, 300)", r.arrival(0, 2, 300), ABSENT);
+        due("carryOut", r.carryOut(BY_NUMBER), 0);
+        due("parse", Check.parse(r, "street 0 1 10 gate 40 50;house 1 0 0 2 2 2 2 2 2 2;"), 1);
+        due("isOpen(0, 60)", r.isOpen(0, 60), 0);
+        due("fastestFinish", r.fastestFinish(), ABSENT);
+        due("parse", Check.parse(r, "street 0 1 10;house 1 0 0 2 2 2 2 2 2 2;"), 1);
+        due("isOpen(0, 60)", r.isOpen(0, 60), 1);
+        due("isOpen(0, 30)", r.isOpen(0, 30), 1);
+        due("arrival(0, 1, 0)", r.arrival(0, 1, 0), 10);
+        due("fastestFinish", r.fastestFinish(), 321);
+        due("carryOut", r.carryOut(BY_NUMBER), 1);
+        due("bottlesOut", r.bottlesOut(), 2);
     }
 
     private static void plainNumbers() {
@@ -567,6 +599,13 @@ public final class PromiseTest {
         r.undo();
         order("horseStop", r, 3, 1, 2);
         order("horseStop", new DeliveryRound());
+        // one round more for a stop that is farther and has a higher number
+        DeliveryRound s = Check.round("nodes 4; street 0 1 1; street 0 3 9;"
+                + "house 1 0 0 0 1 1 1 1 1 1; house 3 0 0 1 1 1 1 1 1 1;");
+        s.carryOut(BY_NUMBER);
+        order("horseStop", s, 3, 1);
+        s.carryOut(BY_NUMBER);
+        order("horseStop", s, 1, 3);
     }
 
     private static void horseTies() {
@@ -593,8 +632,8 @@ public final class PromiseTest {
         // 1, 2: through the gate at 318, 323, 324, and home by the street 2 0: 354
         // 2, 1: 315, 316, through the gate before 319: 321, 329, 339
         r.setGate(1, 0, 319);
-        due("fastestFinish", r.fastestFinish(), 339);
         order("fastestStop", r, 2, 1);
+        due("fastestFinish", r.fastestFinish(), 339);
         r.undo();
         due("fastestFinish", r.fastestFinish(), 341);
         r.setSkipped(1, true);
@@ -805,6 +844,24 @@ public final class PromiseTest {
         due("bottlesAt(0)", r.bottlesAt(0), 13);
     }
 
+    private static void roomIsShared() {
+        DeliveryRound r = Check.round("cart 10; street 0 1 5; house 1 0 9 3 3 3 3 3 3 3; house 1 0 9 3 3 3 3 3 3 3;");
+        r.carryOut(BY_NUMBER);
+        r.carryOut(BY_NUMBER);
+        r.setKeep(0, 0);
+        r.setKeep(1, 0);
+        r.carryOut(BY_NUMBER);
+        // 3 full and room for 7; then none full, 6 empty and room for 4
+        due("visitReturned(0)", r.visitReturned(0), 6);
+        due("visitReturned(1)", r.visitReturned(1), 4);
+        due("bottlesAt(1)", r.bottlesAt(1), 5);
+        // the next round starts without empty bottles
+        r.setSkipped(0, true);
+        r.carryOut(BY_NUMBER);
+        due("visitReturned(0)", r.visitReturned(0), 5);
+        due("returned(1)", r.returned(1), 9);
+    }
+
     private static void reload() {
         Check.promise(32);
         DeliveryRound r = Check.round("nodes 3; cart 10; start 100; street 0 1 7; street 1 2 4;"
@@ -886,7 +943,17 @@ public final class PromiseTest {
         due("carryOut", r.carryOut(BY_NUMBER), 3);
         // after house 3's delivery the cart has none full: room for all 9
         due("visitReturned(2)", r.visitReturned(2), 9);
-        // Left out later, the same stop still counts at the reload: 18 are loaded, and 9 stay full.
+        // House 0 is left out first: the reload is for house 2's 4 bottles alone, and there is room for 8.
+        DeliveryRound q = Check.round("nodes 3; cart 10; street 0 2 5; house 1 0 9 9 9 9 9 9 9 9;"
+                + "house 2 0 9 9 9 9 9 9 9 9; house 2 0 9 4 4 4 4 4 4 4;");
+        q.carryOut(BY_NUMBER);
+        q.carryOut(BY_NUMBER);
+        q.setKeep(2, 0);
+        due("carryOut", q.carryOut(BY_NUMBER), 2);
+        due("visitReturned(0)", q.visitReturned(0), 9);
+        due("visitReturned(1)", q.visitReturned(1), 8);
+        due("bottlesAt(2)", q.bottlesAt(2), 4);
+        // A stop that is left out only later still counts at the reload.
         DeliveryRound s = Check.round("nodes 4; cart 10; street 0 1 5; "
                 + "house 1 0 0 9 9 9 9 9 9 9; house 1 0 0 4 4 4 4 4 4 4; house 2 0 0 9 9 9 9 9 9 9;");
         s.carryOut(BY_NUMBER);
@@ -1130,7 +1197,11 @@ public final class PromiseTest {
         due("restoreSnapshot(-1)", r.restoreSnapshot(-1), false);
         due("visitCount", r.visitCount(), 2);
         for (int times = 0; times < 2; times++) {
+            r.setOrder(1, 2, 0);
+            r.fastestFinish();
             due("restoreSnapshot(0)", r.restoreSnapshot(0), true);
+            // houses 1 and 2 are left: 310, 313; through the gate at 320, 325, 326, 331, 341
+            due("fastestFinish", r.fastestFinish(), 341);
             due("undo", r.undo(), ABSENT);
             due("day", r.day(), 1);
             due("demand(0)", r.demand(0), 0);
