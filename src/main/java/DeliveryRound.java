@@ -870,18 +870,23 @@ public final class DeliveryRound {
         int[] arrivalsFrom(int node, int minute) {
             Arrays.fill(arrivals, NEVER);
             arrivals[node] = minute;
+            sweepStreets(false);
+            return arrivals;
+        }
+
+        /** No best way has as many streets as there are nodes, so MAX_NODES sweeps find them all. */
+        void sweepStreets(boolean back) {
             boolean better = true;
             for (int sweep = 0; sweep < MAX_NODES && better; sweep++) {
                 better = false;
                 for (int street = 0; street < plan.streetCount; street++) {
                     int a = plan.streetA[street];
                     int b = plan.streetB[street];
-                    if (improveArrival(street, a, b) || improveArrival(street, b, a)) {
-                        better = true;
-                    }
+                    boolean there = back ? improveDeparture(street, a, b) : improveArrival(street, a, b);
+                    boolean here = back ? improveDeparture(street, b, a) : improveArrival(street, b, a);
+                    better = better || there || here;
                 }
             }
-            return arrivals;
         }
 
         boolean improveArrival(int street, int from, int to) {
@@ -903,17 +908,7 @@ public final class DeliveryRound {
         int[] departuresTo(int node, int minute) {
             Arrays.fill(departures, TOO_LATE);
             departures[node] = minute;
-            boolean better = true;
-            for (int sweep = 0; sweep < MAX_NODES && better; sweep++) {
-                better = false;
-                for (int street = 0; street < plan.streetCount; street++) {
-                    int a = plan.streetA[street];
-                    int b = plan.streetB[street];
-                    if (improveDeparture(street, a, b) || improveDeparture(street, b, a)) {
-                        better = true;
-                    }
-                }
-            }
+            sweepStreets(true);
             return departures;
         }
 
@@ -1046,7 +1041,10 @@ public final class DeliveryRound {
             Arrays.fill(earliest, NEVER);
             earliest[place(0, DEPOT)] = plan.start;
             for (int set = 0; set <= all; set += 2) {
-                for (int node = 0; node < plan.nodeCount && isPart(set); node++) {
+                if (!isPart(set)) {
+                    continue;
+                }
+                for (int node = 0; node < plan.nodeCount; node++) {
                     if (isLast(set, node) && earliest[place(set, node)] != NEVER) {
                         driveOn(set, node);
                     }
@@ -1072,7 +1070,10 @@ public final class DeliveryRound {
             Arrays.fill(latest, TOO_LATE);
             allow(all, network.departuresTo(DEPOT, finish));
             for (int set = all; set > 0; set -= 2) {
-                for (int node = 1; node < plan.nodeCount && isPart(set); node++) {
+                if (!isPart(set)) {
+                    continue;
+                }
+                for (int node = 1; node < plan.nodeCount; node++) {
                     int at = place(set, node);
                     // Where even the earliest is too late, no order in time comes through.
                     if (isLast(set, node) && earliest[at] <= latest[at]) {
