@@ -2,13 +2,19 @@
 final class Check {
     private static int wrong = 0;
     private static int asked = 0;
-    private static int promise = 0;
+    private static String place = "";
 
     private Check() {
     }
 
     static void promise(int number) {
-        promise = number;
+        place = "promise " + number;
+    }
+
+    /** What follows tests these words of the document; section 0 is its description, else a promise's number. */
+    static void says(int section, String words) {
+        place = (section == 0 ? "description" : "promise " + section) + ", '" + words + "'";
+        due("the document has these words", Document.quote(section, words), true);
     }
 
     static void due(String call, long got, long want) {
@@ -16,7 +22,7 @@ final class Check {
         if (got != want) {
             wrong++;
             if (wrong <= 50) {
-                System.out.println("promise " + promise + ": " + call + " answered " + got + ", due is " + want);
+                System.out.println(place + ": " + call + " answered " + got + ", due is " + want);
             }
         }
     }
@@ -75,5 +81,16 @@ final class Check {
     /** The answer that is due for a syntax error. */
     static int error(int offset, int kind) {
         return -2 - (8 * offset + kind);
+    }
+
+    /** The sign ^ marks where the error is and is not part of the text. */
+    static void refused(String marked, int kind) {
+        int offset = marked.indexOf('^');
+        String text = marked.replace("^", "");
+        due("parse of '" + text + "'", parse(new DeliveryRound(), text), error(offset, kind));
+    }
+
+    static void accepted(String text, int houses) {
+        due("parse of '" + text + "'", parse(new DeliveryRound(), text), houses);
     }
 }

@@ -73,15 +73,12 @@ public final class PromiseTest {
         Check.due(call, got, want);
     }
 
-    /** The sign ^ marks where the error is and is not part of the text. */
     private static void error(String marked, int kind) {
-        int offset = marked.indexOf('^');
-        String text = marked.replace("^", "");
-        due("parse of '" + text + "'", Check.parse(new DeliveryRound(), text), Check.error(offset, kind));
+        Check.refused(marked, kind);
     }
 
     private static void accepted(String text, int houses) {
-        due("parse of '" + text + "'", Check.parse(new DeliveryRound(), text), houses);
+        Check.accepted(text, houses);
     }
 
     private static String times(int count, String text) {
