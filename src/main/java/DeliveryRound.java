@@ -27,7 +27,8 @@ public final class DeliveryRound {
     private static final int DEPOT = 0;
     // A gate's end is at least 1, so 0 is free to say that there is no gate.
     private static final int NO_GATE = 0;
-    private static final int NEVER = Integer.MAX_VALUE;
+    // Written out: of Integer, LANGUAGE.md lists the functions alone.
+    private static final int NEVER = 0x7fffffff;
     private static final int TOO_LATE = -1;
 
     private final Text text;
